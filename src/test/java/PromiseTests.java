@@ -178,6 +178,19 @@ public final class PromiseTests {
         x.mend(0, 0, 1, 2);
         due("5 DRAUGHT is above draught", x.of(0, 11), 2);
         due("5 CUT", x.of(0, 21), 6);
+        x.mend(0, 0, 0, 7);
+        for (int spot = 0; spot < 6; spot++) {
+            due("5 CUT at each SPOT", x.of(0, 20 + spot), spot == 0 ? 11 : spot == 1 ? 6 : 4);
+        }
+        due("5 DRAUGHT at 0, too", x.of(0, 11), 1 | 2);
+        x.mend(0, 4, 0, 1);
+        due("5 no DRAUGHT at draught itself", x.of(0, 11), 2);
+        x.mend(0, 4, 0, 6);
+        due("5 CUT less", x.of(0, 20), 4);
+        x.lean(4);
+        due("5 GAP 0 RUBS not", x.of(0, 10) & 1, 0);
+        x.lean(5);
+        due("5 GAP -1 RUBS", x.of(0, 10) & 1, 1);
         due("5 PAINT none", x.of(0, 4), 0);
         x.mend(0, 3, 1, 0);
         due("5 PAINT OUTSIDE", x.of(0, 4), 2);
@@ -284,7 +297,7 @@ public final class PromiseTests {
             {"sink a", 5}, {"sink -1", 5}, {"sink 123", 7}, {"sink 1 ", 6}, {"sink 1;", 7}, {"sink 1;;", 7},
             {"sink 1; sink 1", 7}, {"sink 1,", 6}, {"draught 1 m=1", 9},
             {"swell 1", 7}, {"swell 1;", 7}, {"swell 1 ", 8}, {"swell 123 k=1", 8}, {"swell 1  k=1", 8},
-            {"swell 1 q=1", 8}, {"swell 1 k", 9}, {"swell 1 k!1", 9}, {"swell 1 k=", 10}, {"swell 1 k=x", 10},
+            {"swell 1 q=1", 8}, {"swell 1 5", 8}, {"swell 1 =5", 8}, {"swell 1 k5", 9}, {"swell 1 k&", 9}, {"swell 1 k", 9}, {"swell 1 k!1", 9}, {"swell 1 k=", 10}, {"swell 1 k=x", 10},
             {"swell 1 k=123", 12}, {"swell 1 k=1 ", 11}, {"swell 1 k=1&", 12}, {"swell 1 k=1|", 12},
             {"swell 1 k=1&&k=1", 12}, {"swell 1 k=1)", 11}, {"swell 1 (k=1", 12}, {"swell 1 (k=1;", 12},
             {"swell 1 ()", 9}, {"swell 1 !", 9}, {"swell 1 !;", 9}, {"swell 1 k=1!k=1", 11},
@@ -309,6 +322,14 @@ public final class PromiseTests {
         long100.setCharAt(99, '1');
         long100.setCharAt(97, '|');
         due("9 fault ahead of the end", house(new DoorSticks(), long100.toString()), -107);
+        DoorSticks x = new DoorSticks();
+        house(x, "swell 1 k=1&;");
+        String[] begun = {"s", "swel", "swell", "swell ", "swell 1", "swell 1 ", "swell 1 k", "swell 1 k=",
+            "swell 1 k=1&", ""};
+        for (String text : begun) {
+            due("9 the end, whatever was there: " + text, house(x, text), -10 - text.length());
+        }
+        due("9 one clause, whatever was there", house(x, "swell 1 k=2"), 0);
     }
 
     /** SWELLING shows in SWELL: with WATER of 40 at both sides it is twice as much. */
@@ -398,6 +419,14 @@ public final class PromiseTests {
         due("11 MONTH 36", x.told(3), 18);
         months(x, 12);
         due("11 LEAN 20 at most", x.told(3), 20);
+        DoorSticks four = withDoors(0, 0, 1, 0, 2, 0, 3, 0);
+        house(four, "draw 3 d=3|d=1");
+        four.air(0, 0);
+        due("11 four DOORS", four.month(), 1);
+        for (int d = 0; d < 4; d++) {
+            due("11 each DOOR's WATER", four.of(d, 2), 25);
+            due("11 each DOOR's SAG", four.of(d, 5), d % 2 * 3);
+        }
         lastMonth();
     }
 
@@ -558,6 +587,20 @@ public final class PromiseTests {
         due("16 FITS: draught 9", x.off(0, -1), 1);
         house(x, "swell 4 w<99;sink 9;draught 8");
         due("16 does not FIT: draught 8", x.off(0, -1), 0);
+        x.mend(0, 1, 0, 9);
+        due("16 OFF at 5: PACK", x.off(0, 5), 5);
+        x.mend(1, 0, 0, 4);
+        house(x, "swell 0 k=9;draught 40");
+        x.lean(0);
+        due("16 FITS", x.off(1, -1), 1);
+        house(x, "swell 0 k=9;draught 7");
+        x.mend(1, 2, 0, 0);
+        due("16 DRAUGHT at 0 and 1", x.off(1, -1), 0);
+        DoorSticks top = withDoors(0, 0);
+        top.mend(0, 0, 0, 6);
+        due("16 DRAUGHT at 0 alone", top.off(0, -1), 0);
+        top.mend(0, 4, 0, 1);
+        due("16 FITS at draught itself", top.off(0, -1), 1);
         due("16 nothing changed", x.of(0, 22), 4);
         due("16 NONE door", x.off(2, 0), -1);
         due("16 NONE spot", x.off(0, 6), -1);
@@ -640,6 +683,16 @@ public final class PromiseTests {
         x.mend(0, 4, 4, 4);
         due("17 of several the least as bits", x.cheapest(0, 0), 1);
         due("17 the same cost", x.cheapest(0, 1), 3);
+        DoorSticks all = withDoors(0, 0);
+        house(all, "swell 9 w>5;draw 1 m=0");
+        all.air(0, 90);
+        all.lean(5);
+        all.sag(0, 7);
+        all.mend(0, 0, 1, 9);
+        all.mend(0, 4, 4, 4);
+        // CUT 0 at SPOT 4 asks for PACK and SCREWS, SPOTS 2 and 3 for PAINT, SPOT 0 can only be CUT.
+        due("17 all four", all.cheapest(0, 0), 15);
+        due("17 all four", all.cheapest(0, 1), 3 + 1 + 2 + 5);
     }
 
     private static void promise18() {
@@ -663,6 +716,12 @@ public final class PromiseTests {
         due("18 at 3", x.why(0, 3), 1 | 8);
         x.mend(0, 1, 0, 9);
         due("18 at 5 nothing helps", x.why(0, 5), 0);
+        x.mend(0, 4, 0, 4);
+        due("18 LEAN, just so", x.why(0, 0), 4);
+        x.mend(0, 0, 0, 4);
+        x.sag(1, 1);
+        x.mend(1, 4, 2, 3);
+        due("18 each just not enough", x.why(1, 2), 0);
         x.lean(4);
         due("18 STATE: just not", x.why(0, 0), -3);
         due("18 NONE door", x.why(2, 0), -1);
@@ -748,6 +807,21 @@ public final class PromiseTests {
         x.sag(1, 0);
         x.sag(3, 0);
         due("21 none RUBS", x.changed(0), 0);
+        x.lean(4);
+        due("21 just none RUBS", x.changed(0), 0);
+        DoorSticks top = withDoors(6, 0, 0, 0);
+        top.sag(0, 8);
+        top.lean(5);
+        // LEANED: HANG 10, so its CUT at 1 may be 0; DOOR: at 0 and 1 LEAN 5 of CUT 4.
+        due("21 both RUB at 0 whatever", top.changed(0), 0);
+        top.mend(0, 0, 1, 1);
+        due("21 at 1", top.changed(1), 1);
+        DoorSticks first = withDoors(0, 0, 0, 0);
+        first.lean(3);
+        first.mend(0, 4, 0, 2);
+        first.mend(0, 0, 4, 4);
+        first.sag(1, 5);
+        due("21 at 0 one RUBS either way, at 4 fewer", first.changed(0), 1);
         due("21 nothing changed", x.of(1, 24), 6);
         due("21 NONE", x.changed(2), -1);
         due("21 NONE", x.changed(-1), -1);
@@ -814,6 +888,12 @@ public final class PromiseTests {
         }
         due("24 none is otherwise", x.judge(0, 1, 0), -5);
         due("24 SWOLLEN is at 2", x.judge(0, 1, 1), 2);
+        x.item(0, 7, 9);
+        due("24 six are looked at, no more", x.judge(0, 1, 0), -5);
+        x.item(0, 7, 0);
+        x.tape(2, 1, 6);
+        x.shift(0, 1, 2, 0, 6);
+        due("24 the row ends behind all six", x.judge(2, 0, 0), -5);
         due("24 at once", x.judge(0, 0, 0), 0);
         due("24 the row ends", x.judge(0, 7, 0), 0);
         x.item(0, 7, 4);
@@ -848,13 +928,15 @@ public final class PromiseTests {
         house(x, "sink 2");
         x.lean(1);
         x.air(4, 44);
-        x.book(3, 3);
         x.month();
+        x.book(4, 9);
+        x.book(4, 7);
         x.water(0, 1, 11);
         x.sag(0, 2);
         x.mend(0, 3, 0, 0);
         x.mend(0, 1, 0, 3);
         x.mend(0, 0, 4, 5);
+        due("25 the BOOK ahead", x.looked(0, 0), 1);
         int[] was = snapshot(x);
         due("25 how many DOORS", x.image(), 1);
         due("25 changes nothing", was[0], snapshot(x)[0]);
@@ -877,7 +959,8 @@ public final class PromiseTests {
         due("26 HOUSES stay", x.count(1), 2);
         due("26 THE TEXT stays", x.count(3), 3);
         due("26 TAPES stay", x.read(2, 0), 0);
-        due("26 the BOOK's row", x.looked(0, 0), 0);
+        due("26 the BOOK's rows", x.looked(0, 0), 1);
+        due("26 the BOOK's rows", x.looked(0, 2), -5);
         x.sag(0, 19);
         x.month();
         due("26 THE IMAGE stays", x.undo(), 1);
@@ -1021,6 +1104,7 @@ public final class PromiseTests {
         due("31 nothing, n does not matter", x.tape(1, -1, 99), 1);
         due("31 nothing, n does not matter", x.tape(1, -1, -1), 1);
         due("31 nothing", x.item(1, 0, 0), -11);
+        due("31 nothing", x.read(1, 0), Long.MIN_VALUE);
         due("31 NONE", x.tape(6, 0, 1), -1);
         due("31 NONE ahead of all", x.tape(-1, 5, 61), -1);
         due("31 BAD sort", x.tape(2, 5, 1), -2);
