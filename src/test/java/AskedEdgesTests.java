@@ -263,7 +263,8 @@ public final class AskedEdgesTests extends Edges {
         due("GAP 10 at 1 behind 12", late.off(0, -1), 0);
 
         DoorSticks far = inHouse("swell 99 k=0;draught 99", 0, 0);
-        due("CUT above 99", far.off(0, -1), 1);
+        due("CUT 247, GAP 0", far.off(0, -1), 1);
+        due("CUT 490, GAP 486 when it is dry", drying("swell 99 k=0;draught 99").off(0, -1), 0);
     }
 
     private static DoorSticks drying(String text) {
