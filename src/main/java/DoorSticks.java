@@ -28,8 +28,8 @@ public final class DoorSticks {
     private final House bare = new House(new Clause[0]);
     private final House[] houses = new House[HOUSES];
     private int houseCount;
-    private final Course course = new Course(home, bare);
-    private final Course otherCourse = new Course(home, bare);
+    private final Course course = new Course();
+    private final Course otherCourse = new Course();
     private final Acts acts = new Acts();
     private final Tape[] tapes = new Tape[TAPES];
 
@@ -577,13 +577,13 @@ public final class DoorSticks {
     }
 
     private Course courseNow(Door d) {
-        course.begin(d, holdingHouse());
+        course.begin(d, home, holdingHouse());
         return course;
     }
 
     /** What a set of CHEAPEST costs; NO_ONE, if the DOOR RUBS with it. */
     private int costOf(Door d, int set) {
-        course.begin(d, holdingHouse());
+        course.begin(d, home, holdingHouse());
         Door tried = course.door;
         int cost = 0;
         if ((set & 2) != 0) {
@@ -609,8 +609,8 @@ public final class DoorSticks {
     }
 
     private boolean rubsLessChanged(Door a, Door b) {
-        course.begin(a, holdingHouse());
-        otherCourse.begin(b, holdingHouse());
+        course.begin(a, home, holdingHouse());
+        otherCourse.begin(b, home, holdingHouse());
         int now = course.rubsWith(a.cuts) + otherCourse.rubsWith(b.cuts);
         int then = course.rubsWith(b.cuts) + otherCourse.rubsWith(a.cuts);
         return then < now;
@@ -752,24 +752,20 @@ public final class DoorSticks {
         }
     }
 
-    /** A DOOR as it would go on: a copy, so that what is asked changes nothing. */
+    /** A DOOR as it would go on, with the AIR it has: all copies, so that what is asked changes nothing. */
     private static final class Course {
-        private final Home home;
-        private House house;
+        private House house = new House(new Clause[0]);
         final Door door = new Door();
+        private final int[] airs = new int[MONTHS];
         private int month;
         int lean, swell, bend, hang;
         final int[] least = new int[SPOTS];
         final int[] greatest = new int[SPOTS];
 
-        Course(Home home, House bare) {
-            this.home = home;
-            house = bare;
-        }
-
-        void begin(Door from, House holding) {
+        void begin(Door from, Home home, House holding) {
             house = holding;
             door.become(from);
+            System.arraycopy(home.airs, 0, airs, 0, MONTHS);
             month = home.month;
             lean = home.lean;
             settle();
@@ -796,7 +792,7 @@ public final class DoorSticks {
 
         void goOn(int months) {
             for (int m = 0; m < months; m++) {
-                pass(home.airs[month % MONTHS]);
+                pass(airs[month % MONTHS]);
             }
             settle();
         }
@@ -807,7 +803,7 @@ public final class DoorSticks {
                 greatest[spot] = gap(spot);
             }
             for (int m = 0; m < months; m++) {
-                pass(home.airs[month % MONTHS]);
+                pass(airs[month % MONTHS]);
                 settle();
                 for (int spot = 0; spot < SPOTS; spot++) {
                     least[spot] = Math.min(least[spot], gap(spot));
@@ -888,7 +884,7 @@ public final class DoorSticks {
             int lastSink = 0;
             int lastDraught = 9;
             for (Clause clause : clauses) {
-                anySwell |= clause.word == HouseText.SWELL;
+                anySwell = anySwell || clause.word == HouseText.SWELL;
                 lastSink = clause.word == HouseText.SINK ? clause.n : lastSink;
                 lastDraught = clause.word == HouseText.DRAUGHT ? clause.n : lastDraught;
             }
@@ -1047,15 +1043,18 @@ public final class DoorSticks {
         }
 
         private boolean takesFactor(int depth) {
-            if (depth < MOST_WITHIN && takes('!')) {
-                boolean whole = takesFactor(depth + 1);
+            int inside = depth;
+            while (inside < MOST_WITHIN && takes('!')) {
+                inside++;
+            }
+            boolean whole = inside < MOST_WITHIN && takes('(')
+                ? takesAnyOf(inside + 1) && takes(')')
+                : takesTest();
+            // Behind a FAULT the code is read by nobody, so NOT may stand there without what it turns.
+            for (int nots = depth; nots < inside; nots++) {
                 addCode(Clause.NOT);
-                return whole;
             }
-            if (depth < MOST_WITHIN && takes('(')) {
-                return takesAnyOf(depth + 1) && takes(')');
-            }
-            return takesTest();
+            return whole;
         }
 
         private boolean takesTest() {
@@ -1152,9 +1151,9 @@ public final class DoorSticks {
             v = door.v;
             number = door.number;
             switch (act) {
-                case SWELLS: return swells(kind, x, 0);
-                case HANGS: return hangs(kind, x, 0);
-                case TELLS: return tells(kind, x, 0);
+                case SWELLS: return swells(this, kind, x, 0);
+                case HANGS: return hangs(this, kind, x, 0);
+                case TELLS: return tells(this, kind, x, 0);
                 default: return 0;
             }
         }
@@ -1170,67 +1169,70 @@ public final class DoorSticks {
             return within(k, 1, KINDS - 1) ? ABOVE[k] : PLAIN;
         }
 
-        /** The body of KIND k, or of the next above it that has one; so hangs and tells, too. */
-        private int swells(int k, int x, int depth) {
+        /**
+         * The body of KIND k, or of the next above it that has one; so hangs and tells, too. They are static, as
+         * only a static method may call itself.
+         */
+        private static int swells(Acts acts, int k, int x, int depth) {
             if (depth > DEEPEST) {
                 return 0;
             }
             switch (k) {
                 case PLAIN:
-                    began(10);
-                    return x + number;
+                    acts.began(10);
+                    return x + acts.number;
                 case BOWED:
-                    began(30);
-                    return swells(above(BOWED), x * 3, depth + 1);
+                    acts.began(30);
+                    return swells(acts, above(BOWED), x * 3, depth + 1);
                 case FRAMED:
-                    began(50);
-                    return -swells(above(FRAMED), x, depth + 1);
+                    acts.began(50);
+                    return -swells(acts, above(FRAMED), x, depth + 1);
                 case LEANED:
-                    began(71);
-                    return swells(above(LEANED), x, depth + 1) ^ v;
+                    acts.began(71);
+                    return swells(acts, above(LEANED), x, depth + 1) ^ acts.v;
                 default:
-                    return swells(above(k), x, depth + 1);
+                    return swells(acts, above(k), x, depth + 1);
             }
         }
 
-        private int hangs(int k, int x, int depth) {
+        private static int hangs(Acts acts, int k, int x, int depth) {
             if (depth > DEEPEST) {
                 return 0;
             }
             switch (k) {
                 case PLAIN:
-                    began(11);
-                    return swells(kind, x, depth + 1) - v;
+                    acts.began(11);
+                    return swells(acts, acts.kind, x, depth + 1) - acts.v;
                 case SWOLLEN:
-                    began(20);
-                    return hangs(above(SWOLLEN), x, depth + 1) ^ 6;
+                    acts.began(20);
+                    return hangs(acts, above(SWOLLEN), x, depth + 1) ^ 6;
                 case FRAMED:
-                    began(51);
-                    return hangs(above(FRAMED), x + 1, depth + 1);
+                    acts.began(51);
+                    return hangs(acts, above(FRAMED), x + 1, depth + 1);
                 case LEANED:
-                    began(70);
-                    return hangs(above(LEANED), x, depth + 1) + swells(above(LEANED), 2, depth + 1);
+                    acts.began(70);
+                    return hangs(acts, above(LEANED), x, depth + 1) + swells(acts, above(LEANED), 2, depth + 1);
                 default:
-                    return hangs(above(k), x, depth + 1);
+                    return hangs(acts, above(k), x, depth + 1);
             }
         }
 
-        private int tells(int k, int x, int depth) {
+        private static int tells(Acts acts, int k, int x, int depth) {
             if (depth > DEEPEST) {
                 return 0;
             }
             switch (k) {
                 case PLAIN:
-                    began(12);
-                    return hangs(kind, x, depth + 1) * 2;
+                    acts.began(12);
+                    return hangs(acts, acts.kind, x, depth + 1) * 2;
                 case SAGGED:
-                    began(40);
-                    return tells(above(SAGGED), x, depth + 1) + hangs(kind, 1, depth + 1);
+                    acts.began(40);
+                    return tells(acts, above(SAGGED), x, depth + 1) + hangs(acts, acts.kind, 1, depth + 1);
                 case PLANED:
-                    began(60);
-                    return tells(above(PLANED), x - number, depth + 1);
+                    acts.began(60);
+                    return tells(acts, above(PLANED), x - acts.number, depth + 1);
                 default:
-                    return tells(above(k), x, depth + 1);
+                    return tells(acts, above(k), x, depth + 1);
             }
         }
     }

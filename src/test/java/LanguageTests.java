@@ -18,6 +18,8 @@ public final class LanguageTests {
         library(code);
         members(code);
         methods(code);
+        operators(code);
+        handedOut(code);
         System.out.println(wrong == 0 ? "LanguageTests: all as due" : "LanguageTests: " + wrong + " wrong");
         System.exit(wrong == 0 ? 0 : 1);
     }
@@ -102,13 +104,43 @@ public final class LanguageTests {
                 tell("11", "more than seven parameters: " + any.group());
             }
             int end = code.indexOf("\n" + any.group(1) + "}", any.end());
-            long lines = code.substring(any.end(), Math.max(any.end(), end)).lines().count();
-            if (lines > 60) {
-                tell("11", lines + " lines: " + any.group());
+            String body = code.substring(any.end(), Math.max(any.end(), end));
+            if (body.lines().count() > 60) {
+                tell("11", body.lines().count() + " lines: " + any.group());
+            }
+            boolean callsItself = Pattern.compile("(?<!\\.)\\b" + name + "\\(").matcher(body).find();
+            if (callsItself && !any.group(2).contains("private static")) {
+                tell("8", "calls itself and is not private and static: " + any.group());
             }
         }
         if (open.size() != 33 || found < 80) {
             tell("1", "of the methods only " + open.size() + " open ones, " + found + " in all were found");
+        }
+    }
+
+    /** Rule 10 names && and || of booleans, and no other. */
+    private static void operators(String code) {
+        Matcher named = Pattern.compile("\\bboolean (\\w+)\\b(?!\\()").matcher(code);
+        while (named.find()) {
+            Matcher joined = Pattern.compile("\\b" + named.group(1) + " [|&^]=? [^|&].*").matcher(code);
+            while (joined.find()) {
+                tell("10", joined.group());
+            }
+        }
+    }
+
+    /** Rule 12: what a class makes at its fields is not made with another field of the same object. */
+    private static void handedOut(String code) {
+        Matcher made = Pattern.compile("(?m)^( {4}| {8})(private |final )[\\w \\[\\]]*= new \\w+\\((.*)\\);$").matcher(code);
+        int found = 0;
+        while (made.find()) {
+            found++;
+            if (made.group(3).replaceAll("\\bnew \\w+", "").matches(".*\\b[a-z]\\w*.*")) {
+                tell("12", made.group());
+            }
+        }
+        if (found < 8) {
+            tell("12", "of what is made at fields only " + found + " were found");
         }
     }
 }
